@@ -10,15 +10,34 @@ final class Checks {
 
     private static int wrong = 0;
     private static int made = 0;
+    private static int sentences = 0;
+    private static int madeBeforeSentence = 0;
+    private static String sentence = "";
 
     private Checks() {
+    }
+
+    /** The checks from here on hold this sentence of the document: a wrong answer is told with it. */
+    static void sentence(String where, String words) {
+        closeSentence();
+        sentences++;
+        madeBeforeSentence = made;
+        sentence = where + ", \"" + words + "\": ";
+    }
+
+    // A sentence that nothing was held against would pass without being tested.
+    private static void closeSentence() {
+        if (sentences > 0 && made == madeBeforeSentence) {
+            wrong++;
+            System.out.println(sentence + "has no check");
+        }
     }
 
     static void due(String call, int got, int want) {
         made++;
         if (got != want) {
             wrong++;
-            System.out.println(call + " answered " + got + ", due is " + want);
+            System.out.println(sentence + call + " answered " + got + ", due is " + want);
         }
     }
 
@@ -26,7 +45,7 @@ final class Checks {
         made++;
         if (!does) {
             wrong++;
-            System.out.println("does not hold: " + what);
+            System.out.println(sentence + "does not hold: " + what);
         }
     }
 
@@ -40,7 +59,9 @@ final class Checks {
     }
 
     static void end() {
-        System.out.println(made + " checks, " + wrong + " wrong");
+        closeSentence();
+        String held = sentences > 0 ? sentences + " sentences, " : "";
+        System.out.println(held + made + " checks, " + wrong + " wrong");
         if (wrong != 0 || made == 0) {
             System.exit(1);
         }
